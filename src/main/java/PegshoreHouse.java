@@ -31,8 +31,9 @@ public final class PegshoreHouse {
     private int end;
 
     public PegshoreHouse() {
-        board = new Board();
-        walk = new Walk(board);
+        Board laid = new Board();
+        board = laid;
+        walk = new Walk(laid);
         madeCodes = new Row(MOST_MADE);
         toldHoles = new Row(MOST_TOLD);
     }
