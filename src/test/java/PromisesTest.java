@@ -1,73 +1,7 @@
 import java.util.NoSuchElementException;
 
 /** At least one check a promise, with answers worked out by hand from the document. */
-public final class PromisesTest {
-    private static final int[] ROW = {0, 1, 2, 3, 4};
-    private static final int[] DIAMOND = {2, 6, 7, 8, 10, 11, 12, 13, 14, 16, 17, 18, 22};
-    private static final int[] SQUARE = {0, 1, 2, 5, 6, 7, 10, 11, 12};
-    private static int wrong = 0;
-
-    private interface Call {
-        Object on(PegshoreHouse house);
-    }
-
-    private interface Recipe {
-        PegshoreHouse make();
-    }
-
-    private static void due(String what, Object got, Object want) {
-        if (!want.equals(got)) {
-            wrong++;
-            System.out.println(what + " answered " + got + ", due is " + want);
-        }
-    }
-
-    /** The call throws, and leaves its house as one on which it was not called. */
-    private static void thrown(String what, Recipe recipe, Class<?> want, Call call) {
-        PegshoreHouse house = recipe.make();
-        try {
-            due(what, call.on(house), want.getSimpleName());
-        } catch (RuntimeException e) {
-            due(what, e.getClass().getSimpleName(), want.getSimpleName());
-        }
-        due("the house after " + what, picture(house), picture(recipe.make()));
-    }
-
-    /** All that a house tells of itself; the row and the jumps made are taken away by it. */
-    private static String picture(PegshoreHouse house) {
-        StringBuilder text = new StringBuilder();
-        text.append(house.checksum()).append(' ').append(house.made()).append(' ').append(house.sweeps()).append(' ');
-        text.append(house.lines()).append(' ').append(house.symmetries()).append(' ').append(house.reached()).append(' ');
-        text.append(house.canEnd()).append(' ').append(house.value()).append(' ').append(house.isSound()).append(' ');
-        text.append(answer(house, PegshoreHouse::faultAt)).append(' ').append(house.clear()).append(' ');
-        while (house.made() > 0) {
-            text.append(house.takeBack()).append(' ').append(house.now()).append(' ');
-        }
-        return text.append(house.setEnd(0)).append(' ').append(house.setKind('s')).toString();
-    }
-
-    private static Object answer(PegshoreHouse house, Call call) {
-        try {
-            return call.on(house);
-        } catch (RuntimeException e) {
-            return e.getClass().getSimpleName();
-        }
-    }
-
-    private static PegshoreHouse house(char kind, int pegs, int... cells) {
-        PegshoreHouse house = new PegshoreHouse();
-        house.setKind(kind);
-        for (int cell : cells) {
-            house.drill(cell);
-        }
-        house.put(pegs);
-        return house;
-    }
-
-    private static PegshoreHouse row() {
-        return house('s', 27, ROW);
-    }
-
+public final class PromisesTest extends Checks {
     /** A row board in the midst of all: two jumps made, a row told, an end and weights. */
     private static PegshoreHouse busy() {
         PegshoreHouse house = row();
@@ -78,10 +12,6 @@ public final class PromisesTest {
         house.setEnd(4);
         house.weigh(2, 7);
         return house;
-    }
-
-    private static PegshoreHouse diamond(char kind, int pegs) {
-        return house(kind, pegs, DIAMOND);
     }
 
     public static void main(String[] args) {
@@ -110,10 +40,7 @@ public final class PromisesTest {
         faultsOfRows();
         figures();
         soundness();
-        System.out.println(wrong == 0 ? "all promises are kept" : wrong + " answers are not as due");
-        if (wrong != 0) {
-            System.exit(1);
-        }
+        finish("all promises are kept");
     }
 
     // Promise 1
@@ -464,14 +391,6 @@ public final class PromisesTest {
         thrown("highest of no hole", PegshoreHouse::new, NoSuchElementException.class, PegshoreHouse::highest);
     }
 
-    private static PegshoreHouse weighed(int... weights) {
-        PegshoreHouse house = house('s', 3, ROW);
-        for (int hole = 0; hole < weights.length; hole++) {
-            house.weigh(hole, weights[hole]);
-        }
-        return house;
-    }
-
     // Promises 29 to 32
     private static void weights() {
         PegshoreHouse house = row();
@@ -566,18 +485,6 @@ public final class PromisesTest {
         due("value after winning", both.value(), 1);
         thrown("winning of none", PromisesTest::row, NoSuchElementException.class, PegshoreHouse::winning);
         thrown("winning without jumps", PromisesTest::busy, NoSuchElementException.class, PegshoreHouse::winning);
-    }
-
-    private static PegshoreHouse told(int pegs, int... holes) {
-        PegshoreHouse house = house('s', pegs, ROW);
-        for (int hole : holes) {
-            house.tell(hole);
-        }
-        return house;
-    }
-
-    private static PegshoreHouse fullRow() {
-        return told(27, 0, 1, 2, 3, 4, 0, 1, 2, 3, 4, 0, 1);
     }
 
     // Promises 38 and 41
