@@ -7,6 +7,7 @@ import java.util.Arrays;
  */
 public final class EdgesTest extends Checks {
     private static final char[] KINDS = {'s', 't', 'd'};
+    private static final int LAST_OF_13 = 1 << 12;
     /** A board of 13 holes on which eleven jumps lead from twelve pegs to one. */
     private static final int[] LONG_GAME = {8, 9, 12, 13, 14, 16, 17, 18, 19, 21, 22, 23, 24};
 
@@ -50,6 +51,7 @@ public final class EdgesTest extends Checks {
         checksums();
         shares();
         means();
+        askedTwice();
         lastCall();
         finish("each boundary holds");
     }
@@ -58,10 +60,6 @@ public final class EdgesTest extends Checks {
         for (int i = 0; i < calls.length; i++) {
             due(what + ", call " + i, answer(house, calls[i]), want[i]);
         }
-    }
-
-    private static int lastOf(int holes) {
-        return 1 << holes - 1;
     }
 
     // "Creates a house with a square board without holes"; "a board has no holes at first"
@@ -333,7 +331,8 @@ public final class EdgesTest extends Checks {
         house.jump(12, 10);
         due("code taken back", house.takeBack(), 1210);
         house.put(0b110000000011);
-        dueAll("codes to the right", house, new int[] {2, 2, 1012}, PegshoreHouse::jumps, h -> h.jumpAt(0), h -> h.jumpAt(1));
+        dueAll("codes to the right", house, new int[] {2, 2, 1012}, PegshoreHouse::jumps, h -> h.jumpAt(0),
+                h -> h.jumpAt(1));
         PegshoreHouse middle = diamond('d', 8191 - (1 << 6));
         int last = -1;
         for (int i = 0; i < middle.jumps(); i++) {
@@ -484,7 +483,7 @@ public final class EdgesTest extends Checks {
         PegshoreHouse all = diamond('s', 8191);
         due("the first end of 13", all.setEnd(8191), 0);
         due("canEnd of all pegs", all.canEnd(), true);
-        due("the greatest end of 13", all.setEnd(lastOf(13)), 8191);
+        due("the greatest end of 13", all.setEnd(LAST_OF_13), 8191);
         due("canEnd of one peg", all.canEnd(), false);
         PegshoreHouse none = house('s', 0, ROW);
         due("canEnd of none with none", none.canEnd(), true);
@@ -559,7 +558,8 @@ public final class EdgesTest extends Checks {
         want[2] = 0;
         dueAll("no pegs", diamond('d', 0), want, PegshoreHouse::reached, PegshoreHouse::dead, PegshoreHouse::fewest);
         want[2] = 1;
-        dueAll("one peg", diamond('d', lastOf(13)), want, PegshoreHouse::reached, PegshoreHouse::dead, PegshoreHouse::fewest);
+        dueAll("one peg", diamond('d', LAST_OF_13), want, PegshoreHouse::reached, PegshoreHouse::dead,
+                PegshoreHouse::fewest);
         dueAll("two pegs", house('s', 3, 0, 1, 2), new int[] {2, 1, 1}, PegshoreHouse::reached, PegshoreHouse::dead,
                 PegshoreHouse::fewest);
         dueAll("two ways for two pegs", house('s', 0b00110, ROW), new int[] {3, 2, 1}, PegshoreHouse::reached,
@@ -595,7 +595,13 @@ public final class EdgesTest extends Checks {
         PegshoreHouse apart = house('s', 0b01011, ROW);
         due("leastSweeps by one peg and another", sweepsTo(apart, 0b00010), 2);
         PegshoreHouse last = house('s', 0b1100000000, 0, 1, 2, 3, 4, 5, 6, 22, 23, 24);
-        due("leastSweeps with the tenth hole", sweepsTo(last, 1 << 7), 1);
+        due("leastSweeps from the tenth hole", sweepsTo(last, 1 << 7), 1);
+        last.put(0b0110000000);
+        due("leastSweeps to the tenth hole", sweepsTo(last, 1 << 9), 1);
+        PegshoreHouse first = house('s', 0b011, 0, 1, 2);
+        due("leastSweeps from the first hole", sweepsTo(first, 0b100), 1);
+        first.put(0b110);
+        due("leastSweeps to the first hole", sweepsTo(first, 0b001), 1);
     }
 
     // "the least row that a peg has in some position that can be come to"; "0 to 4"
@@ -623,8 +629,8 @@ public final class EdgesTest extends Checks {
             }
             due("the weight of all", house.weight(8191), 1287 * sign);
             due("the weight of none", house.weight(0), 0);
-            due("the weight of the last", house.weight(lastOf(13)), 99 * sign);
-            due("the weight of all but the last", house.weight(lastOf(13) - 1), 1188 * sign);
+            due("the weight of the last", house.weight(LAST_OF_13), 99 * sign);
+            due("the weight of all but the last", house.weight(LAST_OF_13 - 1), 1188 * sign);
             due("the weight set back", house.weigh(12, 0), 99 * sign);
             due("the weight of all but one", house.weight(8191), 1188 * sign);
         }
@@ -703,7 +709,8 @@ public final class EdgesTest extends Checks {
 
     // "if the three holes of each jump of the board have three colours"
     private static void fitColourings() {
-        int[][] lines = {{0, 1, 2}, {22, 23, 24}, {0, 5, 10}, {14, 19, 24}, {2, 6, 10}, {14, 18, 22}, {0, 6, 12}, {12, 18, 24}};
+        int[][] lines = {{0, 1, 2}, {22, 23, 24}, {0, 5, 10}, {14, 19, 24}, {2, 6, 10}, {14, 18, 22}, {0, 6, 12},
+            {12, 18, 24}};
         for (int[] line : lines) {
             for (char kind : KINDS) {
                 boolean left = line[1] - line[0] == 4 && kind != 's';
@@ -762,7 +769,8 @@ public final class EdgesTest extends Checks {
         due("winning of two like ones", house('s', 0b01100, ROW).winning(), 204);
         due("winning by the higher one", house('s', 0b10110, ROW).winning(), 200);
         due("winning of 2 and 1", house('s', 0b01100_01101, TWO_ROWS).winning(), 301);
-        due("winning by the greatest code", house('s', 0b11 << 11, 0, 1, 3, 4, 5, 7, 8, 9, 16, 18, 20, 21, 22).winning(), 1210);
+        PegshoreHouse last = house('s', 0b11 << 11, 0, 1, 3, 4, 5, 7, 8, 9, 16, 18, 20, 21, 22);
+        due("winning by the greatest code", last.winning(), 1210);
         PegshoreHouse zero = house('s', 0b01011, ROW);
         due("winning of the value 0", answer(zero, PegshoreHouse::winning), "NoSuchElementException");
     }
@@ -890,7 +898,8 @@ public final class EdgesTest extends Checks {
             due("pegBits of none in " + holes, house.pegBits(), 0);
             for (int pegs = 1; pegs <= holes; pegs++) {
                 house.put((1 << holes) - (1 << holes - pegs));
-                due("pegBits of " + pegs + " in " + holes, house.pegBits(), Float.floatToIntBits((float) pegs / (float) holes));
+                int want = Float.floatToIntBits((float) pegs / (float) holes);
+                due("pegBits of " + pegs + " in " + holes, house.pegBits(), want);
             }
             due("pegBits of all in " + holes, house.pegBits(), 1065353216);
         }
@@ -906,6 +915,55 @@ public final class EdgesTest extends Checks {
         PegshoreHouse house = house('s', 3, 0, 1, 2);
         house.jump(0, 2);
         due("meanJumps behind the jump", house.meanJumps(), 0.0);
+    }
+
+    /** Nine holes with a jump made, behind and ahead of which all that is asked has other answers. */
+    private static PegshoreHouse nine() {
+        PegshoreHouse house = house('t', 0b010_110_111, SQUARE);
+        house.setEnd(0b100_000_001);
+        int last = house.jumpAt(house.jumps() - 1);
+        house.jump(last / 100, last % 100);
+        return house;
+    }
+
+    private static Object losesAt(PegshoreHouse house, int index) {
+        return house.loses(house.jumpAt(index) / 100, house.jumpAt(index) % 100);
+    }
+
+    /** What is asked of all that can be come to, which the house may keep from one call to the next. */
+    private static final Call[] ASKING = {PegshoreHouse::canEnd, PegshoreHouse::ways, PegshoreHouse::hint,
+        PegshoreHouse::reached, PegshoreHouse::dead, PegshoreHouse::fewest, PegshoreHouse::leastSweeps,
+        PegshoreHouse::highest, PegshoreHouse::value, PegshoreHouse::winning, PegshoreHouse::meanJumps,
+        h -> losesAt(h, 0), h -> losesAt(h, 1)};
+    private static final Call[] CHANGING = {PegshoreHouse::now, PegshoreHouse::takeBack, h -> h.put(0b101_011_110),
+        h -> h.put(0b111_110_111), h -> h.put(0b000_011_110), h -> h.put(0b000_000_011), h -> h.put(0),
+        h -> h.setEnd(0b000_000_100), h -> h.setEnd(0b010_000_000), h -> h.setEnd(h.now()),
+        h -> h.jump(h.jumpAt(0) / 100, h.jumpAt(0) % 100),
+        h -> h.setKind('d'), h -> h.setKind('s'), h -> h.drill(3), h -> h.fill(12), h -> h.fill(0),
+        h -> h.fill(10) + h.drill(3) + h.put(0b110_111_011)};
+
+    // What was asked ahead changes no answer: any two of these calls, then a change, then the same ones again
+    private static void askedTwice() {
+        for (int change = 0; change < CHANGING.length; change++) {
+            Object[] want = new Object[ASKING.length];
+            for (int i = 0; i < ASKING.length; i++) {
+                PegshoreHouse fresh = nine();
+                CHANGING[change].on(fresh);
+                want[i] = answer(fresh, ASKING[i]);
+            }
+            for (int first = 0; first < ASKING.length; first++) {
+                for (int second = 0; second < ASKING.length; second++) {
+                    PegshoreHouse house = nine();
+                    answer(house, ASKING[first]);
+                    answer(house, ASKING[second]);
+                    CHANGING[change].on(house);
+                    String when = " of " + first + " and " + second + " behind change " + change;
+                    due("the first" + when, answer(house, ASKING[first]), want[first]);
+                    due("the second" + when, answer(house, ASKING[second]), want[second]);
+                    due("the first again" + when, answer(house, ASKING[first]), want[first]);
+                }
+            }
+        }
     }
 
     // "An object is used for at most 512 calls"

@@ -21,7 +21,8 @@ public final class RefusalsTest extends Checks {
     /** Cells that are none; shifts by 32, 57 and -32 wrap around to the cells 0 and 25. */
     private static final int[] NO_CELLS = {-1, 25, 26, 31, 32, 57, -32, -7, Integer.MIN_VALUE, Integer.MAX_VALUE};
     /** The houses and how many holes each has. */
-    private static final Recipe[] HOUSES = {RefusalsTest::bare, RefusalsTest::game, RefusalsTest::eleven, RefusalsTest::full};
+    private static final Recipe[] HOUSES = {RefusalsTest::bare, RefusalsTest::game, RefusalsTest::eleven,
+        RefusalsTest::full};
     private static final int[] HOLES = {0, 10, 11, 13};
     private static final Set<String> REFUSED = new TreeSet<>();
 
@@ -310,7 +311,8 @@ public final class RefusalsTest extends Checks {
             }
         }
         for (int end : new int[] {0, 1, 1023, 0b01011_01011}) {
-            refused("leastSweeps", "of ten to " + end, ended(RefusalsTest::game, end), NO_ELEMENT, PegshoreHouse::leastSweeps);
+            Recipe ten = ended(RefusalsTest::game, end);
+            refused("leastSweeps", "of ten to " + end, ten, NO_ELEMENT, PegshoreHouse::leastSweeps);
         }
         due("leastSweeps of ten holes", game().leastSweeps(), 2);
     }
