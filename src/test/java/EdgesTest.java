@@ -162,19 +162,6 @@ public final class EdgesTest extends Checks {
         due("lines over no hole", house('d', 0, 0, 2, 4, 10, 12, 14, 20, 22, 24).lines(), 0);
     }
 
-    /** In the midst of all, with a row told that can be played on. */
-    private static PegshoreHouse busy() {
-        PegshoreHouse house = house('s', 0b01011, ROW);
-        for (int hole = 0; hole < 5; hole++) {
-            house.weigh(hole, 10 * hole - 20);
-        }
-        house.setEnd(0b10000);
-        house.jump(0, 2);
-        house.tell(2);
-        house.tell(4);
-        return house;
-    }
-
     private static void dueWeights(String what, PegshoreHouse house, int... want) {
         for (int hole = 0; hole < want.length; hole++) {
             due(what + " at " + hole, house.weight(1 << hole), want[hole]);
@@ -185,7 +172,7 @@ public final class EdgesTest extends Checks {
     // stay"
     private static void kindKeepsAndForgets() {
         for (char kind : KINDS) {
-            PegshoreHouse house = busy();
+            PegshoreHouse house = midst();
             due("setKind to " + kind, house.setKind(kind), 's');
             dueAll("setKind to " + kind, house, new int[] {0, 0, 0, 0b01100, 0b10000}, PegshoreHouse::made,
                     PegshoreHouse::sweeps, PegshoreHouse::clear, PegshoreHouse::now, h -> h.setEnd(0));
@@ -217,7 +204,7 @@ public final class EdgesTest extends Checks {
             dueWeights("weight behind drill of " + cells[i], house, weights[i]);
             due("end behind drill of " + cells[i], house.setEnd(0), 0);
         }
-        PegshoreHouse house = busy();
+        PegshoreHouse house = midst();
         house.drill(24);
         dueAll("busy behind drill", house, new int[] {0, 0, 0, 0b01100, 0}, PegshoreHouse::made, PegshoreHouse::sweeps,
                 PegshoreHouse::clear, PegshoreHouse::now, h -> h.setEnd(0));
@@ -250,7 +237,7 @@ public final class EdgesTest extends Checks {
             due("weight of the hole again", house.weight(1 << i), 0);
             due("peg of the hole again", house.now() >> i & 1, 0);
         }
-        PegshoreHouse house = busy();
+        PegshoreHouse house = midst();
         house.fill(0);
         dueAll("busy behind fill", house, new int[] {0, 0, 0, 0b0110, 0}, PegshoreHouse::made, PegshoreHouse::sweeps,
                 PegshoreHouse::clear, PegshoreHouse::now, h -> h.setEnd(0));
@@ -280,12 +267,12 @@ public final class EdgesTest extends Checks {
     // "Sets the position; jumps made are forgotten, the row told stays"
     private static void putKeepsAndForgets() {
         for (int pegs : new int[] {0, 0b01100, 31}) {
-            PegshoreHouse house = busy();
+            PegshoreHouse house = midst();
             due("put of " + pegs, house.put(pegs), 0b01100);
             dueAll("busy behind put of " + pegs, house, new int[] {pegs, 0, 0, 2, 0b10000}, PegshoreHouse::now,
                     PegshoreHouse::made, PegshoreHouse::sweeps, PegshoreHouse::clear, h -> h.setEnd(0));
         }
-        PegshoreHouse house = busy();
+        PegshoreHouse house = midst();
         house.put(0b01100);
         due("play of the row that stays", house.play(), 1);
     }
@@ -377,13 +364,13 @@ public final class EdgesTest extends Checks {
 
     // "To take a jump back makes the position, and the jumps made, as they were ahead of it; all else stays"
     private static void takeBackKeeps() {
-        PegshoreHouse house = busy();
+        PegshoreHouse house = midst();
         due("takeBack of the only jump", house.takeBack(), 2);
         dueAll("busy behind takeBack", house, new int[] {0b01011, 0, 0, 2, 0b10000}, PegshoreHouse::now,
                 PegshoreHouse::made, PegshoreHouse::sweeps, PegshoreHouse::clear, h -> h.setEnd(0));
         dueWeights("weight behind takeBack", house, -20, -10, 0, 10, 20);
         due("kind behind takeBack", house.setKind('s'), 's');
-        PegshoreHouse two = busy();
+        PegshoreHouse two = midst();
         two.play();
         due("takeBack of a played jump", two.takeBack(), 204);
         due("made behind it", two.made(), 1);
@@ -634,7 +621,7 @@ public final class EdgesTest extends Checks {
             due("the weight set back", house.weigh(12, 0), 99 * sign);
             due("the weight of all but one", house.weight(8191), 1188 * sign);
         }
-        PegshoreHouse busy = busy();
+        PegshoreHouse busy = midst();
         busy.weigh(0, -99);
         dueAll("busy behind weigh", busy, new int[] {1, 1, 2, 0b01100, 0b10000}, PegshoreHouse::made, PegshoreHouse::sweeps,
                 PegshoreHouse::clear, PegshoreHouse::now, h -> h.setEnd(0));
@@ -785,7 +772,7 @@ public final class EdgesTest extends Checks {
         due("clear of twelve", house.clear(), 12);
         due("clear of none again", house.clear(), 0);
         due("tell behind clear", house.tell(12), 1);
-        PegshoreHouse busy = busy();
+        PegshoreHouse busy = midst();
         busy.tell(0);
         due("clear of busy", busy.clear(), 3);
         dueAll("busy behind clear", busy, new int[] {1, 1, 0b01100, 0b10000, 0}, PegshoreHouse::made,
@@ -809,7 +796,7 @@ public final class EdgesTest extends Checks {
         PegshoreHouse back = told(0b01100, 3, 1);
         due("play of a jump left", back.play(), 1);
         due("now behind a jump left", back.now(), 0b00010);
-        PegshoreHouse busy = busy();
+        PegshoreHouse busy = midst();
         due("play behind a jump", busy.play(), 1);
         due("made behind both", busy.made(), 2);
         due("tell behind play", busy.tell(0), 1);

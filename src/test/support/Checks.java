@@ -89,6 +89,19 @@ class Checks {
         return told(27, 0, 1, 2, 3, 4, 0, 1, 2, 3, 4, 0, 1);
     }
 
+    /** In the midst of all, with a row told that can be played on. */
+    static PegshoreHouse midst() {
+        PegshoreHouse house = house('s', 0b01011, ROW);
+        for (int hole = 0; hole < 5; hole++) {
+            house.weigh(hole, 10 * hole - 20);
+        }
+        house.setEnd(0b10000);
+        house.jump(0, 2);
+        house.tell(2);
+        house.tell(4);
+        return house;
+    }
+
     static PegshoreHouse weighed(int... weights) {
         PegshoreHouse house = house('s', 3, ROW);
         for (int hole = 0; hole < weights.length; hole++) {
